@@ -33,6 +33,8 @@ public final class PromisesTest {
         doesNothing();
         faults();
         back();
+        backOfEach();
+        backOfTheTenthSpan();
         states();
         told();
         digest();
@@ -424,6 +426,29 @@ public final class PromisesTest {
 
     private static void fewestLeast() {
         DUE.part("promise 13, of like ones the least");
+        HoseSpans ten = level(10);
+        ten.sets(2, 90);
+        is("fewest(10, 1) of ten", ten.fewest(10, 1), 1 << 5);
+        ten.sets(2, 99);
+        is("fewest(1, 1) of ten", ten.fewest(1, 1), 1);
+        ten.sets(2, 98);
+        is("fewest(10, 1) of ten, at 9 p is below LEAST", ten.fewest(10, 1), (1 << 9) + 1);
+        ten.sets(4, 2);
+        is("fewest(10, 1) of ten, at 9 p is LEAST", ten.fewest(10, 1), 1 << 9);
+        HoseSpans many = new HoseSpans();
+        for (int i = 0; i < 10; i++) {
+            many.span(10, 1, 10, 0);
+        }
+        is("loss(0, 6)", many.loss(0, 6), 82);
+        many.sets(2, 18);
+        is("fewest(6, 0) of a pump at each", many.fewest(6, 0), 10);
+        is("fewest(6, 1) of a pump at each", many.fewest(6, 1), 1023);
+        is("lays()", many.count(2) == 10 ? lays(many, 6) : 0, 10);
+        is("run(1) with them", many.run(1), 0);
+        is("run(2) with them", many.run(2), 18);
+        is("node(9, 1)", many.node(9, 1), 100);
+        is("most() with them", many.most(), 6);
+        is("digest() with them", many.digest(), told(many));
         HoseSpans x = new HoseSpans();
         for (int i = 0; i < 4; i++) {
             x.span(10, 2, 0, 0);
@@ -439,12 +464,37 @@ public final class PromisesTest {
         x.sets(1, 70);
         x.sets(2, 60);
         is("fewest(7, 1): NEED 60 asks for one at 3", x.fewest(7, 1), 10);
+        x.sets(2, 0);
+        x.sets(1, 39 + 20);
+        is("fewest(7, 1): at 1 p is LEAST", x.fewest(7, 1), 5);
+        x.bursts(3);
+        x.mends(3);
+        x.cuts();
+        is("fewest(7, 1): at 1 p is LEAST", x.fewest(7, 1), 2);
+        x.sets(1, 39 + 19);
+        is("fewest(7, 1): at 1 p is below LEAST", x.fewest(7, 1), 1 + 2);
+        x.sets(1, 19);
+        is("fewest(7, 1): at 0 p is below LEAST", x.fewest(7, 1), NONE);
+        x.sets(1, 100);
+        is("fewest(7, 1): at 0 p is OUT already", x.fewest(7, 1), 2);
+        is("span", x.span(10, 2, 0, 0), 3);
         x.bursts(2);
         is("fewest(7, 1) past a burst", x.fewest(7, 1), NONE);
     }
 
+    private static int lays(HoseSpans x, int flow) {
+        x.sets(0, flow);
+        return x.lays();
+    }
+
     private static void most() {
         DUE.part("promise 14");
+        HoseSpans one = new HoseSpans();
+        one.span(21, 0, 0, 0);
+        one.sets(2, 0);
+        is("most() of 1", one.most(), 1);
+        one.span(7, 0, 0, 0);
+        is("most() of none", one.most(), NONE);
         HoseSpans x = level(1);
         is("most()", x.most(), NONE);
         x.pumps(0);
@@ -513,6 +563,9 @@ public final class PromisesTest {
     private static void tanks() {
         DUE.part("promise 17");
         HoseSpans x = new HoseSpans();
+        is("tanks for 1", x.tanks(1, 10, 6, 10, 7), 1);
+        is("tanks for 9999", x.tanks(9999, 99, 1, 1, 1), NONE);
+        is("tanks for 5940", x.tanks(5940, 99, 1, 1, 1), 4);
         is("tanks for 18", x.tanks(18, 10, 6, 10, 7), 1);
         is("tanks for 19", x.tanks(19, 10, 6, 10, 7), 2);
         is("tanks for 100, the most by filling", x.tanks(100, 10, 6, 10, 7), 6);
@@ -583,7 +636,7 @@ public final class PromisesTest {
         is("count(2)", x.count(2), 0);
         is("count(9)", x.count(9), 0);
         is("told(3)", x.told(3), 62);
-        is("sixty orders at most", does(x, "p0;".repeat(40)), 40);
+        is("forty orders", does(x, "p0;".repeat(40)), 40);
         is("count(0)", x.count(0), 0);
         is("an order a blank ends", does(x, "p 0 ;"), 1);
         is("count(0)", x.count(0), 1);
@@ -628,6 +681,7 @@ public final class PromisesTest {
             is("does() of " + fault[0], does(x, (String) fault[0]), -10 - (Integer) fault[1]);
         }
         is("a fault behind an order that would be refused", does(x, "p9;q"), -13);
+        is("a fault in the sixtieth order", does(x, "c;".repeat(59) + "q;"), -128);
         is("a text that ends too early at 120", does(x, "p0;".repeat(39) + "p00"), -130);
         is("told(4)", x.told(4), 3);
         is("count(0)", x.count(0), 0);
@@ -660,6 +714,63 @@ public final class PromisesTest {
         is("back()", x.back(), NO);
         is("told(1), not taken back", x.told(1), 2);
         is("span of the same number", x.span(1, 0, 0, 0), 0);
+    }
+
+    /** Each call told S by itself: what back() brings is what was right ahead of it. */
+    private static void backOfEach() {
+        DUE.part("promise 21, of each call");
+        String[] calls = {"span", "cuts", "sets", "pumps", "bursts", "mends", "lays", "does"};
+        for (String call : calls) {
+            HoseSpans x = new HoseSpans();
+            x.span(3, 3, 1, 1);
+            x.span(3, 3, 1, 0);
+            x.sets(5, 50);
+            x.bursts(1);
+            x.mends(1);
+            x.bursts(0);
+            x.mends(0);
+            x.bursts(0);
+            int states = x.told(4);
+            if (call.equals("lays")) x.mends(0);
+            long was = seen(x);
+            switch (call) {
+                case "span": x.span(1, 1, 1, 1); break;
+                case "cuts": x.cuts(); break;
+                case "sets": x.sets(0, 3); break;
+                case "pumps": x.pumps(1); break;
+                case "bursts": x.bursts(1); break;
+                case "mends": x.mends(0); break;
+                case "lays": x.lays(); break;
+                default: does(x, "h1 1 1 1;p2;c;k0 1;"); break;
+            }
+            DUE.holds(call + " changed something", was != seen(x));
+            is(call + ": told(4)", x.told(4), states);
+            is("back() of " + call, x.back(), states - 1);
+            is("what is there then", seen(x), was);
+        }
+    }
+
+    private static void backOfTheTenthSpan() {
+        DUE.part("promise 21, of the tenth span");
+        HoseSpans x = level(9);
+        x.span(9, 1, -9, 1);
+        x.bursts(9);
+        x.sets(5, 7);
+        long was = seen(x);
+        x.cuts();
+        x.span(30, 2, 50, 0);
+        x.back();
+        x.back();
+        is("what is there then", seen(x), was);
+    }
+
+    private static long seen(HoseSpans x) {
+        long h = 0;
+        for (int i = 0; i <= 10; i++) h = 31 * h + x.count(i);
+        for (int i = 0; i < x.count(2); i++) {
+            for (int what = 0; what <= 4; what++) h = 31 * h + x.of(i, what);
+        }
+        return h;
     }
 
     private static void states() {
