@@ -5,6 +5,7 @@ import java.lang.reflect.Modifier;
 import java.nio.file.Files;
 import java.nio.file.Path;
 import java.util.Arrays;
+import java.util.Random;
 import java.util.Set;
 import java.util.TreeSet;
 import java.util.regex.Matcher;
@@ -15,6 +16,9 @@ public final class LanguageTest {
     private static final Due DUE = new Due("LanguageTest");
     private static final String[] RULED_OUT = {"throw", "throws", "try", "catch", "finally", "synchronized", "assert",
         "package", "native", "volatile", "transient", "instanceof", "Exact", "->", "::", "@"};
+    private static final int OBJECTS = 100;
+    /** Of some 22 calls each, so that no object is asked for more than 512. */
+    private static final int ROUNDS = 20;
     private static final Set<String> CALLED_ON = Set.of("Arrays.fill", "Math.max", "Math.min", "Integer.bitCount",
         "System.arraycopy");
 
@@ -26,6 +30,7 @@ public final class LanguageTest {
         words(source.replaceAll("(?s)/\\*.*?\\*/", "").replaceAll("//.*", ""));
         face();
         allocates();
+        neverThrows();
         DUE.end();
     }
 
@@ -88,24 +93,72 @@ public final class LanguageTest {
         if (!(bean instanceof com.sun.management.ThreadMXBean threads)) {
             return;
         }
-        HoseSpans x = new HoseSpans();
-        callAll(x);
+        Hoses[] kept = new Hoses[OBJECTS];
+        callAll(new Hoses());
         long before = threads.getCurrentThreadAllocatedBytes();
-        for (int n = 0; n < 1000; n++) {
-            callAll(x);
+        for (int n = 0; n < OBJECTS; n++) {
+            kept[n] = new Hoses();
         }
-        long each = (threads.getCurrentThreadAllocatedBytes() - before) / 1000;
-        DUE.holds("a thousand rounds of all calls make next to nothing, each " + each, each < 100);
-        HoseSpans[] kept = new HoseSpans[100];
-        before = threads.getCurrentThreadAllocatedBytes();
-        for (int n = 0; n < kept.length; n++) {
-            kept[n] = new HoseSpans();
-        }
-        each = (threads.getCurrentThreadAllocatedBytes() - before) / kept.length;
+        long each = (threads.getCurrentThreadAllocatedBytes() - before) / OBJECTS;
         DUE.holds("a new object is small, " + each + " bytes", each < 8000);
+        before = threads.getCurrentThreadAllocatedBytes();
+        for (Hoses x : kept) {
+            for (int n = 0; n < ROUNDS; n++) {
+                callAll(x);
+            }
+        }
+        each = (threads.getCurrentThreadAllocatedBytes() - before) / OBJECTS / ROUNDS;
+        DUE.holds("a round of all calls makes next to nothing, " + each + " bytes", each < 100);
     }
 
-    private static void callAll(HoseSpans x) {
+    /** Any numbers in any state, beyond the 512th call too: what the calls answer then is free, but they do. */
+    private static void neverThrows() {
+        DUE.part("no call may ever throw");
+        int[] some = {Integer.MIN_VALUE, -1, 0, 1, 2, 3, 5, 10, 11, 20, 30, 99, 120, Integer.MAX_VALUE};
+        String bytes = "hkpxmc;;;0123456789-  ";
+        Random random = new Random(7);
+        for (int objects = 0; objects < OBJECTS; objects++) {
+            HoseSpans x = new HoseSpans();
+            int[] v = new int[5];
+            int calls = 0;
+            for (int n = 0; n < 2000; n++) {
+                for (int i = 0; i < v.length; i++) {
+                    v[i] = random.nextInt(3) > 0 ? random.nextInt(12) : some[random.nextInt(some.length)];
+                }
+                x.type(bytes.charAt(random.nextInt(bytes.length())));
+                callOne(x, random.nextInt(22), v);
+                calls++;
+            }
+            DUE.is("calls that ended", calls, 2000);
+        }
+    }
+
+    private static void callOne(HoseSpans x, int which, int[] v) {
+        switch (which) {
+            case 0: case 1: case 2: x.span(v[0], v[1] % 4, v[2], v[3] % 2); break;
+            case 3: x.cuts(); break;
+            case 4: x.sets(v[0], v[1]); break;
+            case 5: x.pumps(v[0]); break;
+            case 6: x.bursts(v[0]); break;
+            case 7: x.mends(v[0]); break;
+            case 8: x.lays(); break;
+            case 9: x.of(v[0], v[1]); break;
+            case 10: x.loss(v[0], v[1]); break;
+            case 11: x.node(v[0], v[1]); break;
+            case 12: x.run(v[0]); break;
+            case 13: x.fewest(v[0], v[1]); break;
+            case 14: x.most(); break;
+            case 15: x.count(v[0]); break;
+            case 16: x.shuttle(v[0], v[1], v[2], v[3], v[4]); break;
+            case 17: x.tanks(v[0], v[1], v[2], v[3], v[4]); break;
+            case 18: x.type(v[0]); break;
+            case 19: if (x.does() <= -10) x.clear(); break;
+            case 20: x.back(); break;
+            default: x.told(v[0]); x.digest(); break;
+        }
+    }
+
+    private static void callAll(Hoses x) {
         x.span(3, 2, 1, 0);
         x.sets(2, 10);
         x.pumps(0);

@@ -45,34 +45,13 @@ public final class PromisesTest {
         DUE.is(call, got, want);
     }
 
-    private static void type(HoseSpans x, String text) {
-        x.clear();
-        for (int i = 0; i < text.length(); i++) {
-            x.type(text.charAt(i));
-        }
-    }
-
-    private static int does(HoseSpans x, String text) {
-        type(x, text);
-        return x.does();
-    }
-
-    /** n SPANS of one LENGTH of sort 3 without RISE: by FLOW 10 each loses 2. */
-    private static HoseSpans level(int n) {
-        HoseSpans x = new HoseSpans();
-        for (int i = 0; i < n; i++) {
-            x.span(1, 3, 0, 0);
-        }
-        return x;
-    }
-
     private static void newObject() {
         DUE.part("promise 1");
         is("NONE", HoseSpans.NONE, NONE);
         is("BAD", HoseSpans.BAD, BAD);
         is("NO", HoseSpans.NO, NO);
         is("FULL", HoseSpans.FULL, FULL);
-        HoseSpans x = new HoseSpans();
+        Hoses x = new Hoses();
         int[] counts = {0, 0, 0, 0, 10, 20, 30, 100, 5, 0, 0};
         for (int what = 0; what <= 10; what++) {
             is("count(" + what + ")", x.count(what), counts[what]);
@@ -80,7 +59,7 @@ public final class PromisesTest {
         for (int what = 0; what <= 4; what++) {
             is("told(" + what + ")", x.told(what), 0);
         }
-        HoseSpans other = new HoseSpans();
+        Hoses other = new Hoses();
         other.span(1, 0, 0, 0);
         other.type('c');
         is("count(2) of another object", x.count(2), 0);
@@ -89,7 +68,7 @@ public final class PromisesTest {
 
     private static void span() {
         DUE.part("promise 2");
-        HoseSpans x = new HoseSpans();
+        Hoses x = new Hoses();
         is("span(1, 0, -50, 0)", x.span(1, 0, -50, 0), 0);
         is("span(30, 3, 50, 1)", x.span(30, 3, 50, 1), 1);
         int[][] wrong = {{0, 0, 0, 0}, {31, 0, 0, 0}, {1, -1, 0, 0}, {1, 4, 0, 0}, {1, 0, -51, 0}, {1, 0, 51, 0},
@@ -103,7 +82,7 @@ public final class PromisesTest {
     }
 
     private static void spansAreFull() {
-        HoseSpans x = level(9);
+        Hoses x = Hoses.level(9);
         is("the tenth span", x.span(1, 3, 0, 0), 9);
         is("an eleventh span", x.span(1, 3, 0, 0), FULL);
         is("a wrong eleventh span", x.span(0, 3, 0, 0), BAD);
@@ -114,9 +93,9 @@ public final class PromisesTest {
 
     private static void cuts() {
         DUE.part("promise 3");
-        HoseSpans x = new HoseSpans();
+        Hoses x = new Hoses();
         is("cuts() of none", x.cuts(), NO);
-        x = level(2);
+        x = Hoses.level(2);
         x.pumps(0);
         x.pumps(1);
         x.pumps(2);
@@ -136,7 +115,7 @@ public final class PromisesTest {
 
     private static void sets() {
         DUE.part("promise 4");
-        HoseSpans x = new HoseSpans();
+        Hoses x = new Hoses();
         int[][] ranges = {{10, 1, 30}, {20, 0, 100}, {30, 0, 100}, {100, 20, 180}, {5, 0, 20}, {0, 0, 99}};
         for (int k = 0; k < 6; k++) {
             int[] r = ranges[k];
@@ -157,7 +136,7 @@ public final class PromisesTest {
 
     private static void pumps() {
         DUE.part("promise 5");
-        HoseSpans x = level(10);
+        Hoses x = Hoses.level(10);
         is("pumps(0)", x.pumps(0), 1);
         is("pumps(10)", x.pumps(10), 2);
         is("count(1)", x.count(1), 1025);
@@ -169,13 +148,13 @@ public final class PromisesTest {
         is("count(0)", x.count(0), 1);
         x.back();
         is("count(1) after back()", x.count(1), 1025);
-        is("pumps(1) without spans", new HoseSpans().pumps(1), BAD);
-        is("pumps(0) without spans", new HoseSpans().pumps(0), 1);
+        is("pumps(1) without spans", new Hoses().pumps(1), BAD);
+        is("pumps(0) without spans", new Hoses().pumps(0), 1);
     }
 
     private static void bursts() {
         DUE.part("promise 6");
-        HoseSpans x = level(2);
+        Hoses x = Hoses.level(2);
         is("bursts(1)", x.bursts(1), 1);
         is("told(4)", x.told(4), 3);
         is("bursts(1) again", x.bursts(1), 0);
@@ -186,12 +165,12 @@ public final class PromisesTest {
         is("bursts(-1)", x.bursts(-1), BAD);
         is("bursts(MAX)", x.bursts(MAX), BAD);
         is("count(3)", x.count(3), 1);
-        is("bursts(0) without spans", new HoseSpans().bursts(0), BAD);
+        is("bursts(0) without spans", new Hoses().bursts(0), BAD);
     }
 
     private static void mends() {
         DUE.part("promise 7");
-        HoseSpans x = new HoseSpans();
+        Hoses x = new Hoses();
         x.span(7, 0, 0, 0);
         x.span(7, 0, 0, 1);
         x.sets(5, 20);
@@ -216,7 +195,7 @@ public final class PromisesTest {
 
     private static void lays() {
         DUE.part("promise 8");
-        HoseSpans x = level(2);
+        Hoses x = Hoses.level(2);
         x.pumps(2);
         is("lays()", x.lays(), 1);
         is("count(1), the last node's pump gone", x.count(1), 1);
@@ -229,7 +208,7 @@ public final class PromisesTest {
         is("count(1)", x.count(1), 4);
         is("told(1)", x.told(1), 1);
         is("told(4)", x.told(4), 4);
-        HoseSpans none = new HoseSpans();
+        Hoses none = new Hoses();
         is("lays() with no spans, NEED 30", none.lays(), NO);
         none.sets(2, 20);
         none.pumps(0);
@@ -239,7 +218,7 @@ public final class PromisesTest {
 
     private static void of() {
         DUE.part("promise 9");
-        HoseSpans x = new HoseSpans();
+        Hoses x = new Hoses();
         x.span(3, 1, -8, 1);
         x.span(9, 2, 6, 0);
         x.bursts(1);
@@ -260,7 +239,7 @@ public final class PromisesTest {
 
     private static void loss() {
         DUE.part("promise 10");
-        HoseSpans x = new HoseSpans();
+        Hoses x = new Hoses();
         x.span(10, 0, 0, 0);
         x.span(10, 1, 0, 0);
         x.span(10, 2, 0, 0);
@@ -285,20 +264,20 @@ public final class PromisesTest {
         is("told(0)", x.told(0), 4);
     }
 
-    private static void ran(HoseSpans x, int where, int how, int end) {
+    private static void ran(Hoses x, int where, int how, int end) {
         is("run(0)", x.run(0), where);
         is("run(1)", x.run(1), how);
         is("run(2)", x.run(2), end);
     }
 
-    private static void atNode(HoseSpans x, int i, int in, int behind) {
+    private static void atNode(Hoses x, int i, int in, int behind) {
         is("node(" + i + ", 0)", x.node(i, 0), in);
         is("node(" + i + ", 1)", x.node(i, 1), behind);
     }
 
     private static void nodeAndRun() {
         DUE.part("promises 11 and 12");
-        HoseSpans x = level(2);
+        Hoses x = Hoses.level(2);
         ran(x, 2, 5, 16);
         atNode(x, 0, 20, 20);
         atNode(x, 1, 18, 18);
@@ -326,7 +305,7 @@ public final class PromisesTest {
 
     private static void failures() {
         DUE.part("promises 11 and 12, how it fails");
-        HoseSpans x = level(2);
+        Hoses x = Hoses.level(2);
         x.sets(1, 16);
         x.bursts(1);
         ran(x, 1, 1, NONE);
@@ -340,7 +319,7 @@ public final class PromisesTest {
         ran(x, 1, 1, NONE);
         atNode(x, 1, 14, 100);
 
-        HoseSpans empty = level(2);
+        Hoses empty = Hoses.level(2);
         empty.sets(2, 0);
         empty.sets(1, 4);
         ran(empty, NONE, 0, 0);
@@ -349,7 +328,7 @@ public final class PromisesTest {
         atNode(empty, 1, 1, 1);
         atNode(empty, 2, NONE, NONE);
 
-        HoseSpans burst = new HoseSpans();
+        Hoses burst = new Hoses();
         burst.span(1, 0, 0, 0);
         burst.sets(2, 20);
         burst.sets(3, 101);
@@ -361,7 +340,7 @@ public final class PromisesTest {
         burst.bursts(0);
         ran(burst, 0, 1, NONE);
 
-        HoseSpans short30 = level(1);
+        Hoses short30 = Hoses.level(1);
         short30.sets(1, 31);
         ran(short30, 1, 5, 29);
         short30.sets(1, 32);
@@ -373,7 +352,7 @@ public final class PromisesTest {
 
         int[] stands = {100, 120, 150, 180};
         for (int s = 0; s < 4; s++) {
-            HoseSpans sort = new HoseSpans();
+            Hoses sort = new Hoses();
             sort.span(1, s, 50, 0);
             sort.span(1, s, -50, 0);
             sort.sets(0, 1);
@@ -386,7 +365,7 @@ public final class PromisesTest {
                 is("run(1) of one more", sort.run(1), 4);
             }
         }
-        HoseSpans down = new HoseSpans();
+        Hoses down = new Hoses();
         down.span(1, 3, -2, 0);
         down.span(1, 3, 0, 0);
         down.sets(0, 1);
@@ -398,7 +377,7 @@ public final class PromisesTest {
 
     private static void fewest() {
         DUE.part("promise 13");
-        HoseSpans x = level(2);
+        Hoses x = Hoses.level(2);
         x.pumps(1);
         x.pumps(2);
         is("fewest(10, 0)", x.fewest(10, 0), 1);
@@ -418,7 +397,7 @@ public final class PromisesTest {
         is("told(0)", x.told(0), 4);
         is("count(1)", x.count(1), 6);
         is("told(4)", x.told(4), 5);
-        HoseSpans none = new HoseSpans();
+        Hoses none = new Hoses();
         is("fewest(1, 1) with no spans", none.fewest(1, 1), NONE);
         none.sets(1, 30);
         is("fewest(1, 1) with no spans, SOURCE 30", none.fewest(1, 1), 0);
@@ -426,7 +405,7 @@ public final class PromisesTest {
 
     private static void fewestLeast() {
         DUE.part("promise 13, of like ones the least");
-        HoseSpans ten = level(10);
+        Hoses ten = Hoses.level(10);
         ten.sets(2, 90);
         is("fewest(10, 1) of ten", ten.fewest(10, 1), 1 << 5);
         ten.sets(2, 99);
@@ -435,7 +414,7 @@ public final class PromisesTest {
         is("fewest(10, 1) of ten, at 9 p is below LEAST", ten.fewest(10, 1), (1 << 9) + 1);
         ten.sets(4, 2);
         is("fewest(10, 1) of ten, at 9 p is LEAST", ten.fewest(10, 1), 1 << 9);
-        HoseSpans many = new HoseSpans();
+        Hoses many = new Hoses();
         for (int i = 0; i < 10; i++) {
             many.span(10, 1, 10, 0);
         }
@@ -449,7 +428,7 @@ public final class PromisesTest {
         is("node(9, 1)", many.node(9, 1), 100);
         is("most() with them", many.most(), 6);
         is("digest() with them", many.digest(), told(many));
-        HoseSpans x = new HoseSpans();
+        Hoses x = new Hoses();
         for (int i = 0; i < 4; i++) {
             x.span(10, 2, 0, 0);
         }
@@ -482,20 +461,20 @@ public final class PromisesTest {
         is("fewest(7, 1) past a burst", x.fewest(7, 1), NONE);
     }
 
-    private static int lays(HoseSpans x, int flow) {
+    private static int lays(Hoses x, int flow) {
         x.sets(0, flow);
         return x.lays();
     }
 
     private static void most() {
         DUE.part("promise 14");
-        HoseSpans one = new HoseSpans();
+        Hoses one = new Hoses();
         one.span(21, 0, 0, 0);
         one.sets(2, 0);
         is("most() of 1", one.most(), 1);
         one.span(7, 0, 0, 0);
         is("most() of none", one.most(), NONE);
-        HoseSpans x = level(1);
+        Hoses x = Hoses.level(1);
         is("most()", x.most(), NONE);
         x.pumps(0);
         is("most(), 100 less 70", x.most(), 30);
@@ -503,11 +482,11 @@ public final class PromisesTest {
         is("most(), 100 less 10 q q by 100", x.most(), 26);
         x.bursts(1);
         is("most() past a burst", x.most(), NONE);
-        HoseSpans no = new HoseSpans();
+        Hoses no = new Hoses();
         is("most() with no spans", no.most(), NONE);
         no.pumps(0);
         is("most() with a pump at the last node", no.most(), 30);
-        HoseSpans down = new HoseSpans();
+        Hoses down = new Hoses();
         down.span(30, 3, -30, 0);
         down.span(1, 0, -50, 0);
         down.sets(1, 100);
@@ -519,7 +498,7 @@ public final class PromisesTest {
 
     private static void count() {
         DUE.part("promise 15");
-        HoseSpans x = new HoseSpans();
+        Hoses x = new Hoses();
         x.span(7, 0, 0, 0);
         x.span(5, 0, 0, 1);
         x.span(4, 0, 0, 1);
@@ -542,7 +521,7 @@ public final class PromisesTest {
 
     private static void shuttle() {
         DUE.part("promise 16");
-        HoseSpans x = new HoseSpans();
+        Hoses x = new Hoses();
         is("shuttle, by the round, cut", x.shuttle(1, 10, 6, 10, 7), 18);
         is("shuttle, by the round", x.shuttle(3, 10, 6, 10, 7), 54);
         is("shuttle, by filling, cut", x.shuttle(20, 3, 7, 1, 1), 25);
@@ -562,7 +541,7 @@ public final class PromisesTest {
 
     private static void tanks() {
         DUE.part("promise 17");
-        HoseSpans x = new HoseSpans();
+        Hoses x = new Hoses();
         is("tanks for 1", x.tanks(1, 10, 6, 10, 7), 1);
         is("tanks for 9999", x.tanks(9999, 99, 1, 1, 1), NONE);
         is("tanks for 5940", x.tanks(5940, 99, 1, 1, 1), 4);
@@ -587,7 +566,7 @@ public final class PromisesTest {
 
     private static void type() {
         DUE.part("promise 18");
-        HoseSpans x = new HoseSpans();
+        Hoses x = new Hoses();
         is("type(-1)", x.type(-1), BAD);
         is("type(128)", x.type(128), BAD);
         is("told(3)", x.told(3), 0);
@@ -606,9 +585,9 @@ public final class PromisesTest {
 
     private static void clear() {
         DUE.part("promise 19");
-        HoseSpans x = new HoseSpans();
+        Hoses x = new Hoses();
         is("clear() of none", x.clear(), 0);
-        type(x, "p0;");
+        x.write("p0;");
         is("clear()", x.clear(), 3);
         is("told(3)", x.told(3), 0);
         is("does()", x.does(), -10);
@@ -618,8 +597,8 @@ public final class PromisesTest {
 
     private static void does() {
         DUE.part("promise 20");
-        HoseSpans x = new HoseSpans();
-        is("does()", does(x, " h 1 2-3 1 ;h30 0 050 000;k5 099;p0;p 2;x0;x1;m0;h1 0 -0 0;c; "), 10);
+        Hoses x = new Hoses();
+        is("does()", x.does(" h 1 2-3 1 ;h30 0 050 000;k5 099;p0;p 2;x0;x1;m0;h1 0 -0 0;c; "), 10);
         int[] counts = {2, 5, 2, 1, 10, 20, 30, 100, 5, 97, 32};
         for (int what = 0; what <= 10; what++) {
             is("count(" + what + ")", x.count(what), counts[what]);
@@ -636,30 +615,30 @@ public final class PromisesTest {
         is("count(2)", x.count(2), 0);
         is("count(9)", x.count(9), 0);
         is("told(3)", x.told(3), 62);
-        is("forty orders", does(x, "p0;".repeat(40)), 40);
+        is("forty orders", x.does("p0;".repeat(40)), 40);
         is("count(0)", x.count(0), 0);
-        is("an order a blank ends", does(x, "p 0 ;"), 1);
+        is("an order a blank ends", x.does("p 0 ;"), 1);
         is("count(0)", x.count(0), 1);
     }
 
     private static void doesNothing() {
         DUE.part("promise 20, nothing done");
-        HoseSpans x = level(1);
+        Hoses x = Hoses.level(1);
         String[] ended = {"p0;p1;p2;", "k0 5;k2 101;", "k0 5;k6 0;", "c;c;", "h1 0 0 0;h31 0 0 0;", "h1 0 0 0;h1 0 -051 0;",
             "x0;x1;", "x0;m0;", "p0;m0;", "p0;m1;"};
         int[] at = {2, 1, 1, 1, 1, 1, 1, 1, 1, 1};
         for (int n = 0; n < ended.length; n++) {
-            is(ended[n], does(x, ended[n]), -1000 - at[n]);
+            is(ended[n], x.does(ended[n]), -1000 - at[n]);
             is("count(0)", x.count(0), 0);
             is("count(2)", x.count(2), 1);
             is("count(3)", x.count(3), 0);
             is("count(4)", x.count(4), 10);
         }
         is("told(4)", x.told(4), 1);
-        HoseSpans full = level(9);
-        is("an eleventh span", does(full, "h1 0 0 0;h1 0 0 0;"), -1001);
+        Hoses full = Hoses.level(9);
+        is("an eleventh span", full.does("h1 0 0 0;h1 0 0 0;"), -1001);
         is("count(2)", full.count(2), 9);
-        is("sixty cuts", does(full, "c;".repeat(60)), -1009);
+        is("sixty cuts", full.does("c;".repeat(60)), -1009);
         is("count(2)", full.count(2), 9);
         for (int what = 0; what <= 2; what++) {
             is("told(" + what + ")", x.told(what) + full.told(what), 0);
@@ -668,7 +647,6 @@ public final class PromisesTest {
 
     private static void faults() {
         DUE.part("promise 20, faults");
-        HoseSpans x = level(3);
         Object[][] faults = {
             {"", 0}, {" ", 1}, {"   ", 3}, {"c", 1}, {"c ", 2}, {"p", 1}, {"p ", 2}, {"p1", 2}, {"p1 ", 3}, {"c;p", 3},
             {"p;", 1}, {"p -1;", 2}, {"p-1;", 1}, {"pp1;", 1}, {"p1 1;", 3}, {"p1234;", 4}, {"p 1 234;", 4},
@@ -678,23 +656,30 @@ public final class PromisesTest {
             {"h1 2-", 5}, {"h1 2-1234 0;", 8}, {"h1 2-123-4;", 8}, {"h1 2 -3-4;", 7}, {"h-1 2 3 4;", 1}, {"h1-2 3 4;", 2},
             {"p1\t;", 2}, {"\0", 0}, {"p1;" + (char) 127, 3}, {"p1/;", 2}, {"p1:;", 2}, {"x1 2;", 3}, {"m1 2;", 3}};
         for (Object[] fault : faults) {
-            is("does() of " + fault[0], does(x, (String) fault[0]), -10 - (Integer) fault[1]);
+            Hoses x = Hoses.level(3);
+            is("does() of " + fault[0], x.does((String) fault[0]), -10 - (Integer) fault[1]);
+            nothingDone(x);
         }
-        is("a fault behind an order that would be refused", does(x, "p9;q"), -13);
-        is("a fault in the sixtieth order", does(x, "c;".repeat(59) + "q;"), -128);
-        is("a text that ends too early at 120", does(x, "p0;".repeat(39) + "p00"), -130);
+        Hoses x = Hoses.level(3);
+        is("a fault behind an order that would be refused", x.does("p9;q"), -13);
+        is("a fault in the sixtieth order", x.does("c;".repeat(59) + "q;"), -128);
+        is("a text that ends too early at 120", x.does("p0;".repeat(39) + "p00"), -130);
+        nothingDone(x);
+        String[] right = {"h1 2-3 0;", "h 1 2 -3 0;", "h 01 002 -003 000;", "  p  1  ;  ", "k2  0;", "c;", "c ;"};
+        for (String text : right) {
+            is("does() of " + text, x.does(text), 1);
+        }
+    }
+
+    private static void nothingDone(Hoses x) {
         is("told(4)", x.told(4), 3);
         is("count(0)", x.count(0), 0);
         is("told(0)", x.told(0), 0);
-        String[] right = {"h1 2-3 0;", "h 1 2 -3 0;", "h 01 002 -003 000;", "  p  1  ;  ", "k2  0;", "c;", "c ;"};
-        for (String text : right) {
-            is("does() of " + text, does(x, text), 1);
-        }
     }
 
     private static void back() {
         DUE.part("promise 21");
-        HoseSpans x = new HoseSpans();
+        Hoses x = new Hoses();
         is("back() at first", x.back(), NO);
         x.span(5, 1, 2, 1);
         x.pumps(0);
@@ -721,7 +706,7 @@ public final class PromisesTest {
         DUE.part("promise 21, of each call");
         String[] calls = {"span", "cuts", "sets", "pumps", "bursts", "mends", "lays", "does"};
         for (String call : calls) {
-            HoseSpans x = new HoseSpans();
+            Hoses x = new Hoses();
             x.span(3, 3, 1, 1);
             x.span(3, 3, 1, 0);
             x.sets(5, 50);
@@ -741,7 +726,7 @@ public final class PromisesTest {
                 case "bursts": x.bursts(1); break;
                 case "mends": x.mends(0); break;
                 case "lays": x.lays(); break;
-                default: does(x, "h1 1 1 1;p2;c;k0 1;"); break;
+                default: x.does("h1 1 1 1;p2;c;k0 1;"); break;
             }
             DUE.holds(call + " changed something", was != seen(x));
             is(call + ": told(4)", x.told(4), states);
@@ -752,7 +737,7 @@ public final class PromisesTest {
 
     private static void backOfTheTenthSpan() {
         DUE.part("promise 21, of the tenth span");
-        HoseSpans x = level(9);
+        Hoses x = Hoses.level(9);
         x.span(9, 1, -9, 1);
         x.bursts(9);
         x.sets(5, 7);
@@ -764,7 +749,7 @@ public final class PromisesTest {
         is("what is there then", seen(x), was);
     }
 
-    private static long seen(HoseSpans x) {
+    private static long seen(Hoses x) {
         long h = 0;
         for (int i = 0; i <= 10; i++) h = 31 * h + x.count(i);
         for (int i = 0; i < x.count(2); i++) {
@@ -775,8 +760,8 @@ public final class PromisesTest {
 
     private static void states() {
         DUE.part("promise 21, five at most");
-        HoseSpans x = new HoseSpans();
-        type(x, "p0;");
+        Hoses x = new Hoses();
+        x.write("p0;");
         for (int v = 1; v <= 8; v++) {
             is("sets", x.sets(5, v), v - 1);
             is("told(4)", x.told(4), Math.min(v, 5));
@@ -807,7 +792,7 @@ public final class PromisesTest {
 
     private static void told() {
         DUE.part("promise 22");
-        HoseSpans x = level(10);
+        Hoses x = Hoses.level(10);
         x.cuts();
         x.span(1, 0, 0, 0);
         x.span(1, 0, 0, 0);
@@ -831,7 +816,7 @@ public final class PromisesTest {
 
     private static void digest() {
         DUE.part("promise 23");
-        HoseSpans x = new HoseSpans();
+        Hoses x = new Hoses();
         is("digest() at first", x.digest(), told(x));
         x.span(10, 3, 5, 1);
         x.span(12, 2, -5, 0);
@@ -841,7 +826,7 @@ public final class PromisesTest {
         x.sets(9, 9);
         x.cuts();
         x.mends(0);
-        type(x, "c;");
+        x.write("c;");
         is("digest()", x.digest(), told(x));
         is("told(0), a digest adds none", x.told(0), 1);
         is("told(4), nor a state", x.told(4), 5);
@@ -851,7 +836,7 @@ public final class PromisesTest {
         is("digest() of the shared test", emptied(), -8729795297039001903L);
     }
 
-    private static long told(HoseSpans x) {
+    private static long told(Hoses x) {
         long h = 2920;
         for (int i = 0; i <= 4; i++) h = 31 * h + x.told(i);
         for (int i = 0; i <= 10; i++) h = 31 * h + x.count(i);
@@ -868,7 +853,7 @@ public final class PromisesTest {
 
     /** An object as the shared test's fourth run leaves it: as new, but for 34 BAD and 6 NO refused. */
     private static long emptied() {
-        HoseSpans x = new HoseSpans();
+        Hoses x = new Hoses();
         for (int n = 0; n < 34; n++) x.told(5);
         for (int n = 0; n < 6; n++) x.back();
         return x.digest();
