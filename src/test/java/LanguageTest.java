@@ -14,13 +14,18 @@ import java.util.regex.Pattern;
 /** Rules of LANGUAGE.md that can be seen in the file or in the face of the class; run from the project's folder. */
 public final class LanguageTest {
     private static final Due DUE = new Due("LanguageTest");
-    private static final String[] RULED_OUT = {"throw", "throws", "try", "catch", "finally", "synchronized", "assert",
-        "package", "native", "volatile", "transient", "instanceof", "Exact", "->", "::", "@"};
+    private static final String[] RULED_OUT = {"\\bthrows?\\b", "\\btry\\b", "\\bcatch\\b", "\\bfinally\\b",
+        "\\bsynchronized\\b", "\\bassert\\b", "\\bpackage\\b", "\\bnative\\b", "\\bvolatile\\b", "Exact\\b", "::",
+        "(?m)^(?!.*\\b(case|default)\\b).*->"};
+    private static final Set<String> IMPORTS = Set.of("java.util.Arrays", "java.util.ArrayList", "java.util.List",
+        "java.util.Iterator");
+    /** What rule 4 lists of calls on a class's name; of Math, Integer and Long those of its kind that make sense here. */
+    private static final Pattern CALLED_ON = Pattern.compile("System\\.arraycopy|Arrays\\.(copyOf|copyOfRange|fill)|List\\.of"
+        + "|Math\\.(max|min|abs|floorDiv|floorMod)|(Integer|Long)\\.(compare|max|min|signum|bitCount|numberOf\\w+"
+        + "|highestOneBit|lowestOneBit|reverse|rotateLeft|rotateRight|sum)");
     private static final int OBJECTS = 100;
     /** Of some 22 calls each, so that no object is asked for more than 512. */
     private static final int ROUNDS = 20;
-    private static final Set<String> CALLED_ON = Set.of("Arrays.fill", "Math.max", "Math.min", "Integer.bitCount",
-        "System.arraycopy");
 
     private LanguageTest() {
     }
@@ -37,12 +42,11 @@ public final class LanguageTest {
     private static void words(String code) {
         DUE.part("words");
         for (String word : RULED_OUT) {
-            String edge = Character.isLetter(word.charAt(0)) ? "\\b" : "";
-            DUE.holds("no " + word, !Pattern.compile(edge + Pattern.quote(word) + edge).matcher(code).find());
+            DUE.holds("no " + word, !Pattern.compile(word).matcher(code).find());
         }
         Matcher call = Pattern.compile("\\b([A-Z][a-z]\\w*\\.[a-z]\\w*)\\(").matcher(code);
         while (call.find()) {
-            DUE.holds(call.group(1) + " may be called", CALLED_ON.contains(call.group(1)));
+            DUE.holds(call.group(1) + " may be called", CALLED_ON.matcher(call.group(1)).matches());
         }
         Matcher inside = Pattern.compile("\\b(class|record|enum|interface) ").matcher(code);
         int classes = 0;
@@ -52,7 +56,7 @@ public final class LanguageTest {
         DUE.holds("twelve classes or fewer", classes <= 12);
         Matcher imported = Pattern.compile("import ([^;]*);").matcher(code);
         while (imported.find()) {
-            DUE.holds("import of " + imported.group(1), imported.group(1).equals("java.util.Arrays"));
+            DUE.holds("import of " + imported.group(1), IMPORTS.contains(imported.group(1)));
         }
     }
 
@@ -69,11 +73,12 @@ public final class LanguageTest {
         for (Class<?> inside : HoseSpans.class.getDeclaredClasses()) {
             DUE.holds(inside.getName() + " is static", Modifier.isStatic(inside.getModifiers()));
             DUE.holds(inside.getName() + " has few fields", fieldsOf(inside) <= 20);
-            Arrays.stream(inside.getDeclaredMethods()).forEach(m -> hidden.add(m.getName()));
+            Arrays.stream(inside.getDeclaredMethods()).filter(m -> Modifier.isPrivate(m.getModifiers()))
+                .forEach(m -> hidden.add(m.getName()));
         }
         DUE.holds("few fields", fieldsOf(HoseSpans.class) <= 20);
         hidden.retainAll(open);
-        DUE.is("methods inside with a public one's name " + hidden, hidden.size(), 0);
+        DUE.is("private methods with a public one's name " + hidden, hidden.size(), 0);
         for (Field f : HoseSpans.class.getDeclaredFields()) {
             boolean isConstant = Set.of("NONE", "BAD", "NO", "FULL").contains(f.getName());
             DUE.holds(f.getName(), Modifier.isPublic(f.getModifiers()) == isConstant);
@@ -108,7 +113,7 @@ public final class LanguageTest {
             }
         }
         each = (threads.getCurrentThreadAllocatedBytes() - before) / OBJECTS / ROUNDS;
-        DUE.holds("a round of all calls makes next to nothing, " + each + " bytes", each < 100);
+        DUE.holds("a round of all calls makes next to nothing, " + each + " bytes", each < 1000);
     }
 
     /** Any numbers in any state, beyond the 512th call too: what the calls answer then is free, but they do. */
